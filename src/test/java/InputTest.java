@@ -15,6 +15,7 @@ public final class InputTest {
         tooMany();
         tooDeep();
         theFirstErrorCounts();
+        cutTexts();
         anErrorLeavesTheData();
         aLoadReplacesTheData();
         Due.end();
@@ -134,7 +135,7 @@ public final class InputTest {
             "network 2 1 !1;", "network 2!-1;", "network !-2 1;", "network 2 1!.;", "network!\t2 1;", "network 2 1;!\n",
             "network 2 1;!\0", "network 2 1;!\u00ff", "network 2 1;!\u00b2", "network 2!,1;",
             HEAD + "!;", HEAD + "!5;", HEAD + "!99999;", HEAD + "!network 2 1;", HEAD + "!x;", HEAD + "!edges 0 1 1 1 1;",
-            HEAD + "!Edge 0 1 1 1 1;", HEAD + "!cost;", HEAD + "!(1);", HEAD + "!edg",
+            HEAD + "!Edge 0 1 1 1 1;", HEAD + "!cost;", HEAD + "!(1);", HEAD + "!edg", HEAD + "!edgez 0 1 1 1 1;", HEAD + "!adge 0 1 1 1 1;", HEAD + EDGE + "!fan 0 0 0;", HEAD + "!zdepot 0;",
             HEAD + "edge!", HEAD + "edge !;", HEAD + "edge 0 1 1 1 !;", HEAD + "edge 0 1 1 1 1 !1;", HEAD + "edge 0 1 1 1 1!",
             HEAD + "edge 0 !x 1 1 1;", HEAD + "edge 0 1 1 1 1 !edge 0 1 1 1 1;", HEAD + "edge 0 1 1 1 !(1);",
             HEAD + EDGE + "ban 0 0!", HEAD + EDGE + "ban 0 0 !;", HEAD + EDGE + "ban 0 0 0 !0;", HEAD + EDGE + "ban !;",
@@ -197,6 +198,21 @@ public final class InputTest {
         wrongAt("!?network 9 9", WindyTours.SYNTAX_ERROR);
     }
 
+    /** The sign | is where the text ends; what stands behind it in the buffer is not read. */
+    private static void cutTexts() {
+        for (String marked : new String[] {"network 2 1|23;", "network 2 1 | ;", "network| 2 1;", "netwo|rk 2 1;", "|network 2 1;",
+            HEAD + EDGE + "edge 0 1 1 1 |1;", HEAD + "service 1|+1;", HEAD + "service (1|);", HEAD + "depot 1|;"}) {
+            WindyTours x = new WindyTours();
+            int length = marked.indexOf('|');
+            Due.appended(x, marked.replace("|", ""));
+            Due.is("3: load of '" + marked + "'", x.load(length), WindyTours.SYNTAX_ERROR);
+            Due.is("4: errorOffset of '" + marked + "'", x.errorOffset(), marked.startsWith("netwo|") ? 0 : length);
+        }
+        WindyTours x = new WindyTours();
+        Due.appended(x, HEAD + EDGE + EDGE);
+        Due.is("3: the text ends behind a statement", x.load(HEAD.length() + EDGE.length()), 1);
+    }
+
     private static void anErrorLeavesTheData() {
         WindyTours x = Due.with("network 3 7;edge 0 2 5 6 1;depot 2;");
         x.openTour(0);
@@ -216,7 +232,7 @@ public final class InputTest {
     }
 
     private static void aLoadReplacesTheData() {
-        WindyTours x = Due.with("network 3 7;edge 0 2 5 6 1;edge 1 2 1 1 1;ban 2 0 1;depot 2;depot 1;service 9;");
+        WindyTours x = Due.with("network 3 7;edge 0 2 5 6 1;edge 1 2 1 1 1;edge 0 1 1 1 1;ban 2 0 1;depot 2;depot 1;service 9;");
         x.openTour(0);
         x.insert(0, 0, 0);
         Due.is("3: another text", Due.loaded(x, "network 4 3;edge 0 2 8 7 0;edge 2 1 4 4 2;depot 3;"), 2);
@@ -224,11 +240,24 @@ public final class InputTest {
         Due.is("3: edges", x.edgeCount(), 2);
         Due.is("3: depots", x.depotCount(), 1);
         Due.is("3: no tours", x.tourCount(), 0);
+        Due.is("3: no costs", x.totalCost(), 0);
+        Due.is("3: unserved", x.unserved(), 1);
+        Due.is("3: odd nodes", x.oddNodes(), 6);
+        Due.is("3: nothing is built", x.build(), 0);
+        Due.is("3: a tour", x.openTour(0), 0);
+        Due.is("3: it has no arcs", x.length(0), 0);
         Due.is("3: nothing served", x.tourOf(0), -1);
         Due.is("3: service", x.serviceCost(0), 8);
         Due.yes("3: no ban", x.mayFollow(0, 2));
         Due.is("3: deadhead", x.deadhead(0, 3), 4);
         Due.is("3: distance", x.distance(1, 0), 11);
+        Due.is("3: another service", Due.loaded(x, "network 2 9;service cost*cost;edge 0 1 7 8 1;"), 1);
+        Due.is("3: its value", x.serviceCost(0), 49);
+        Due.is("3: a service behind which the text is wrong", Due.loaded(x, HEAD + "service 5+5"), WindyTours.SYNTAX_ERROR);
+        Due.is("3: yet another service", Due.loaded(x, "network 2 9;service cost+1;edge 0 1 7 8 1;"), 1);
+        Due.is("3: its value", x.serviceCost(1), 9);
+        Due.is("3: no service", Due.loaded(x, "network 2 9;edge 0 1 7 8 1;"), 1);
+        Due.is("3: the cost", x.serviceCost(1), 8);
         Due.is("3: a network without edges", Due.loaded(x, HEAD), 0);
         Due.noIndex("3: no edges", () -> x.edge(0, 0));
         Due.is("3: no way", x.distance(0, 1), -1);

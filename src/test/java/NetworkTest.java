@@ -63,6 +63,12 @@ public final class NetworkTest {
         WindyTours y = Due.with("network 2 1;edge 1 0 1 1 1;edge 0 1 1 1 1;ban 0 0 1;");
         Due.no("10: the edge can be told from b", y.mayFollow(0, 2));
         Due.yes("10: at the other node", y.mayFollow(1, 3));
+        WindyTours z = Due.with("network 3 1;edge 0 1 1 1 1;edge 1 2 1 1 1;edge 2 0 1 1 1;ban 0 2 0;ban 1 1 0;");
+        Due.no("10: from b of a later edge", z.mayFollow(4, 0));
+        Due.no("10: from a of a later edge", z.mayFollow(3, 1));
+        Due.yes("10: to a", z.mayFollow(1, 5));
+        Due.yes("10: to b", z.mayFollow(0, 2));
+        Due.yes("10: at the node of no ban", z.mayFollow(2, 4));
     }
 
     private static void deadheads() {
@@ -82,6 +88,7 @@ public final class NetworkTest {
         Due.is("11: no way back", y.deadhead(0, 1), -1);
         Due.is("11: no way to the same arc", y.deadhead(0, 0), -1);
         Due.is("11: a way in the other part", y.deadhead(2, 3), 0);
+        Due.is("11: by arc 0", Due.with("network 3 1;edge 0 1 2 9 1;edge 1 2 9 9 1;edge 2 0 9 9 1;").deadhead(4, 2), 2);
         Due.is("11: a long way", Due.with("network 8 1;edge 0 1 99 1 1;edge 1 2 99 1 1;edge 2 3 99 1 1;edge 3 4 99 1 1;"
                 + "edge 4 5 99 1 1;edge 5 6 99 1 1;edge 6 7 99 1 1;").deadhead(0, 12), 495);
     }
@@ -151,6 +158,9 @@ public final class NetworkTest {
         service("0-9999*100-9999+9999*100+9999", 9899, 9899);
         service("(((cost)+1)*((2)))", 62, 16);
         service("((((cost-1)*2-3)*4-5)*6-7)/100", 12, 1);
+        service("9+2*(3+4*(5+6*(7+8*(9+2*cost))))", 9999, 9223);
+        service("1+1*(1+1*(1+1*(1+1*(1+1*cost))))", 35, 12);
+        service("5000+1*(4-5*(6-7*(8-9*(10-cost))))", 9999, 4309);
         WindyTours x = Due.with("network 2 9;edge 0 1 1 1 0;service 2*cost;edge 0 1 5 1 0;");
         Due.is("13: an edge before the statement", x.serviceCost(0), 2);
         Due.is("13: an edge behind it", x.serviceCost(2), 10);

@@ -64,6 +64,12 @@ public final class SearchTest {
         Due.is("24: a demand of the capacity", y.bestInsertion(2), 1000);
         y.insert(1, 0, 2);
         Due.is("24: no room any more", y.bestInsertion(2), -1);
+        WindyTours z = Due.with(BANNED.replace("depot", "ban 0 0 1;depot"));
+        z.openTour(0);
+        Due.is("24: a tour of its own", z.bestInsertion(1), 0);
+        z.insert(0, 0, 0);
+        Due.is("24: none with the other edge", z.bestInsertion(1), -1);
+        Due.is("29: nor built", z.build(), 0);
     }
 
     /** Behind arc 0 of tour 0 edge 1 adds 6, as it does in the empty tour; in front of arc 0 the ban makes it dearer. */
@@ -252,5 +258,11 @@ public final class SearchTest {
         Due.is("30: a change without a gain is not made", x.improve(10), 0);
         Due.is("17: it stays in its tour", x.length(1), 1);
         Due.is("18: by its arc", x.arcAt(1, 0), 1);
+        WindyTours y = Due.with("network 2 20;edge 0 1 5 5 4;edge 0 1 9 9 4;service 0;depot 0;");
+        y.openTour(0);
+        Due.is("20: service 0, return 5", y.insert(0, 0, 0), 5);
+        Due.is("30: an edge that is not served is not inserted", y.improve(10), 0);
+        Due.is("24: though its insertion has an increase of -5", y.bestInsertion(1), 11);
+        Due.is("26: this", y.insert(0, 1, 3), 0);
     }
 }

@@ -33,10 +33,10 @@ final class SetupMaker {
 
     private String setupOfAnyLength() {
         int nodes = between(2, 8);
-        int edges = oneIn(3) ? between(0, 4) : between(5, 14);
+        int edges = oneIn(3) ? between(0, 4) : between(3, 14);
         int capacity = oneIn(3) ? between(1, 40) : between(20, 999);
         int cost = oneIn(2) ? 99 : 6;
-        int bans = oneIn(3) ? 0 : between(0, 22);
+        int bans = oneIn(3) ? 0 : oneIn(2) ? between(0, 22) : between(15, 45);
         List<String> texts = new ArrayList<>();
         int[][] ends = new int[edges][2];
         for (int edge = 0; edge < edges; edge++) {

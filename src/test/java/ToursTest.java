@@ -82,6 +82,9 @@ public final class ToursTest {
         Due.is("26: another tour", x.insert(1, 0, 3), 1 + 300 + 5);
         Due.is("20: the first tour stays", x.tourCost(0), 317);
         Due.is("21: totalCost", x.totalCost(), 623);
+        WindyTours y = Due.with("network 3 9;edge 0 1 1 1 1;edge 2 0 1 1 1;depot 1;");
+        y.openTour(0);
+        Due.is("26: approach 2, service 1, return by arc 0", y.insert(0, 0, 2), 4);
     }
 
     private static void whatIsAskedOfTours() {
@@ -160,6 +163,11 @@ public final class ToursTest {
         Due.noState("26: no deadhead behind it", () -> x.insert(1, 0, 1));
         Due.noState("26: no return past the ban", () -> x.insert(1, 1, 1));
         Due.is("17: length", x.length(1), 1);
+        WindyTours y = Due.with(ONE_WAY.replace("service 10", "service 0"));
+        y.openTour(0);
+        Due.is("26: approach 1, return 1", y.insert(0, 0, 2), 2);
+        Due.noState("26: no deadhead, in place of the approach", () -> y.insert(0, 0, 5));
+        Due.noState("26: no deadhead, in place of the return", () -> y.insert(0, 1, 1));
     }
 
     private static void capacity() {
@@ -205,6 +213,30 @@ public final class ToursTest {
         Due.is("26: again", x.insert(0, 0, 0), 21);
         Due.is("27: a return in its place", x.drop(2), 12);
         Due.is("27: nothing left", x.drop(0), 0);
+        WindyTours y = deadEndTour();
+        Due.is("27: nothing needs to follow the last arc", y.drop(1), 3);
+        WindyTours z = deadStartTour();
+        Due.is("27: the first arc needs to follow nothing", z.drop(1), 3);
+    }
+
+    /** At the depot one may not go on from the last arc of this tour. */
+    private static WindyTours deadEndTour() {
+        WindyTours x = Due.with("network 3 9;edge 0 1 1 1 1;edge 1 2 1 1 1;edge 2 0 1 1 1;ban 2 1 1;ban 0 2 0;ban 0 2 2;depot 0;");
+        x.openTour(0);
+        x.insert(0, 0, 0);
+        x.insert(0, 1, 2);
+        Due.is("26: round", x.insert(0, 2, 4), 3);
+        return x;
+    }
+
+    /** The same tour the other way round: at the depot one may not come to its first arc. */
+    private static WindyTours deadStartTour() {
+        WindyTours x = Due.with("network 3 9;edge 0 1 1 1 1;edge 1 2 1 1 1;edge 2 0 1 1 1;ban 2 1 1;ban 0 0 2;ban 0 2 2;depot 0;");
+        x.openTour(0);
+        x.insert(0, 0, 5);
+        x.insert(0, 1, 3);
+        Due.is("26: round", x.insert(0, 2, 1), 3);
+        return x;
     }
 
     private static void flipping() {
@@ -239,8 +271,17 @@ public final class ToursTest {
         Due.noState("28: not served, still", () -> x.flip(1));
         Due.is("28: nothing changes then", x.checksum(), sum);
         Due.is("31: nor is it counted as a change", x.undo(), 3);
+        x.drop(0);
+        x.insert(0, 0, 4);
+        Due.noState("28: an approach, but no return", () -> x.flip(2));
         WindyTours y = Due.with(PARALLEL);
         y.openTour(0);
         Due.noState("28: demand 0", () -> y.flip(3));
+        WindyTours end = deadEndTour();
+        Due.noState("28: the arc before the last one leads to the last one alone", () -> end.flip(2));
+        Due.is("28: deadheads 2 and 1", end.flip(1), 6);
+        WindyTours start = deadStartTour();
+        Due.noState("28: the arc behind the first one follows the first one alone", () -> start.flip(2));
+        Due.is("28: deadheads 1 and 2", start.flip(1), 6);
     }
 }

@@ -151,7 +151,9 @@ public final class UndoTest {
         Due.is("31: services", x.serviceCost(7), 10);
         Due.no("31: bans", x.mayFollow(0, 2));
         Due.is("31: deadheads", x.deadhead(0, 2), 12);
+        Due.is("31: deadheads", x.deadhead(0, 0), 13);
         Due.is("31: distances", x.distance(3, 0), 16);
+        Due.is("31: distances", x.distance(0, 1), 3);
         Due.is("31: checksum", x.checksum(), sum);
         Due.is("31: the capacity", x.insert(0, 0, 4), 9 + 8 + 0 + 4 + 8);
         for (int i = 0; i < 9; i++) {
