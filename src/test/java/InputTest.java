@@ -200,13 +200,13 @@ public final class InputTest {
 
     /** The sign | is where the text ends; what stands behind it in the buffer is not read. */
     private static void cutTexts() {
-        for (String marked : new String[] {"network 2 1|23;", "network 2 1 | ;", "network| 2 1;", "netwo|rk 2 1;", "|network 2 1;",
+        for (String marked : new String[] {"network 2 1|23;", "network 2 1 | ;", "network| 2 1;", "networ|k 2 1;", "|network 2 1;",
             HEAD + EDGE + "edge 0 1 1 1 |1;", HEAD + "service 1|+1;", HEAD + "service (1|);", HEAD + "depot 1|;"}) {
             WindyTours x = new WindyTours();
             int length = marked.indexOf('|');
             Due.appended(x, marked.replace("|", ""));
             Due.is("3: load of '" + marked + "'", x.load(length), WindyTours.SYNTAX_ERROR);
-            Due.is("4: errorOffset of '" + marked + "'", x.errorOffset(), marked.startsWith("netwo|") ? 0 : length);
+            Due.is("4: errorOffset of '" + marked + "'", x.errorOffset(), marked.startsWith("networ|") ? 0 : length);
         }
         WindyTours x = new WindyTours();
         Due.appended(x, HEAD + EDGE + EDGE);

@@ -105,6 +105,7 @@ final class NaiveTours {
 
     /** Ends the reading at the first token that the grammar does not allow; all errors before it are kept. */
     private static final class Stop extends RuntimeException {
+        private static final long serialVersionUID = 1;
     }
 
     private static final class Reading {
