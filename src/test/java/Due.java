@@ -1,6 +1,9 @@
+import java.util.NoSuchElementException;
+
 /** What the tests share: answers that are due, exceptions that are due, and loading a text. */
 final class Due {
     private static int wrong = 0;
+    private static String about = "";
 
     private Due() {
     }
@@ -31,6 +34,11 @@ final class Due {
         }
     }
 
+    /** What each failure from here on is told with. */
+    static void about(String what) {
+        about = what;
+    }
+
     static void noIndex(String what, Runnable call) {
         outThrown(what, IndexOutOfBoundsException.class, call);
     }
@@ -43,10 +51,14 @@ final class Due {
         outThrown(what, IllegalArgumentException.class, call);
     }
 
+    static void noElement(String what, Runnable call) {
+        outThrown(what, NoSuchElementException.class, call);
+    }
+
     static void fail(String message) {
         wrong++;
         if (wrong <= 20) {
-            System.out.println(message);
+            System.out.println(about + message);
         }
     }
 
@@ -91,5 +103,28 @@ final class Due {
             fail("the text is refused with " + answer + " at " + x.errorOffset() + ": " + text);
         }
         return x;
+    }
+
+    static WindyTours right(String text, int edges) {
+        WindyTours x = new WindyTours();
+        is("load of '" + text + "'", loaded(x, text), edges);
+        is("errorOffset of '" + text + "'", x.errorOffset(), -1);
+        return x;
+    }
+
+    static void wrong(String text, int code, int offset) {
+        WindyTours x = new WindyTours();
+        is("load of '" + text + "'", loaded(x, text), code);
+        is("errorOffset of '" + text + "'", x.errorOffset(), offset);
+    }
+
+    /** The error is at the sign !, which is not in the text itself. */
+    static void wrongAt(String marked, int code) {
+        wrong(marked.replace("!", ""), code, marked.indexOf('!'));
+    }
+
+    /** Numbers that are no index of a row of this size. */
+    static int[] outside(int count) {
+        return new int[] {-1, count, count + 1, 1 << 28, Integer.MIN_VALUE, Integer.MAX_VALUE};
     }
 }

@@ -94,38 +94,21 @@ public final class InputTest {
         Due.is("3: append starts anew", Due.appended(x, HEAD), 20);
     }
 
-    private static void right(String text, int edges) {
-        WindyTours x = new WindyTours();
-        Due.is("3: load of '" + text + "'", Due.loaded(x, text), edges);
-        Due.is("4: errorOffset of '" + text + "'", x.errorOffset(), -1);
-    }
-
     private static void rightTexts() {
-        right(HEAD, 0);
-        right("network 8 999;", 0);
-        right("   network  2   1  ;   ", 0);
-        right("network2 1;edge0 1 1 1 1;", 1);
-        right("network 0002 00000000000000000000000000000001 ;", 0);
-        right(HEAD + "edge 0 1 99 99 99;edge 1 0 1 1 0;", 2);
-        right(HEAD + EDGE.repeat(14), 14);
-        right(HEAD + EDGE + "ban 0 0 0;ban 0 0 0;ban1 0 0;", 1);
-        right(HEAD + "depot 0;depot 1;depot 0;", 0);
-        right(HEAD + "depot 1;service 1;" + EDGE + "ban 1 0 0;depot 0;" + EDGE, 2);
-        right(HEAD + "service cost;", 0);
-        right(HEAD + "service((((9999))))*( (((0)))) ;", 0);
-        right(HEAD + "service 2*cost;", 0);
-        right(HEAD + "service 1+2-3*4/5+(cost-demand)*00000000001;", 0);
-    }
-
-    private static void wrong(String text, int code, int offset) {
-        WindyTours x = new WindyTours();
-        Due.is("3: load of '" + text + "'", Due.loaded(x, text), code);
-        Due.is("4: errorOffset of '" + text + "'", x.errorOffset(), offset);
-    }
-
-    /** The error is at the sign !, which is not in the text itself. */
-    private static void wrongAt(String marked, int code) {
-        wrong(marked.replace("!", ""), code, marked.indexOf('!'));
+        Due.right(HEAD, 0);
+        Due.right("network 8 999;", 0);
+        Due.right("   network  2   1  ;   ", 0);
+        Due.right("network2 1;edge0 1 1 1 1;", 1);
+        Due.right("network 0002 00000000000000000000000000000001 ;", 0);
+        Due.right(HEAD + "edge 0 1 99 99 99;edge 1 0 1 1 0;", 2);
+        Due.right(HEAD + EDGE.repeat(14), 14);
+        Due.right(HEAD + EDGE + "ban 0 0 0;ban 0 0 0;ban1 0 0;", 1);
+        Due.right(HEAD + "depot 0;depot 1;depot 0;", 0);
+        Due.right(HEAD + "depot 1;service 1;" + EDGE + "ban 1 0 0;depot 0;" + EDGE, 2);
+        Due.right(HEAD + "service cost;", 0);
+        Due.right(HEAD + "service((((9999))))*( (((0)))) ;", 0);
+        Due.right(HEAD + "service 2*cost;", 0);
+        Due.right(HEAD + "service 1+2-3*4/5+(cost-demand)*00000000001;", 0);
     }
 
     private static void syntaxErrors() {
@@ -146,7 +129,7 @@ public final class InputTest {
             HEAD + "service !);", HEAD + "service (!);", HEAD + "service !costs;", HEAD + "service !Cost;", HEAD + "service cost !demand;",
             HEAD + "service cost!(1);", HEAD + "service 2 !cost;", HEAD + "service !costdemand;", HEAD + "service !edge;",
             HEAD + "service 1;!service 1;", HEAD + "service 1; " + EDGE + " !service;", HEAD + "service 1!%2;"}) {
-            wrongAt(text, WindyTours.SYNTAX_ERROR);
+            Due.wrongAt(text, WindyTours.SYNTAX_ERROR);
         }
     }
 
@@ -164,38 +147,38 @@ public final class InputTest {
             "network 3 1;" + EDGE + "edge 1 2 1 1 1;ban 2 1 !0;", "network 3 1;" + EDGE + "ban 2 !0 0;",
             HEAD + "depot !2;", HEAD + "depot !99999999999;", "network 8 1;depot 7;depot !8;",
             HEAD + "service !10000;", HEAD + "service cost+!00010000;", HEAD + "service (((( !4294967296))));"}) {
-            wrongAt(text, WindyTours.OUT_OF_RANGE);
+            Due.wrongAt(text, WindyTours.OUT_OF_RANGE);
         }
     }
 
     private static void tooMany() {
-        wrongAt(HEAD + EDGE.repeat(14) + " !edge 0 1 1 1 1;", WindyTours.TOO_MANY);
-        wrongAt(HEAD + EDGE.repeat(14) + "!edge", WindyTours.TOO_MANY);
-        wrongAt(HEAD + EDGE.repeat(14) + "!edge 5 5 ? x", WindyTours.TOO_MANY);
-        wrongAt(HEAD + "depot 0;depot 0;depot 1; !depot 1;", WindyTours.TOO_MANY);
-        wrongAt(HEAD + "depot 0;depot 0;depot 1;!depot 2;", WindyTours.TOO_MANY);
-        wrongAt(HEAD + "depot 0;depot 0;depot 1;!depots 2;", WindyTours.SYNTAX_ERROR);
+        Due.wrongAt(HEAD + EDGE.repeat(14) + " !edge 0 1 1 1 1;", WindyTours.TOO_MANY);
+        Due.wrongAt(HEAD + EDGE.repeat(14) + "!edge", WindyTours.TOO_MANY);
+        Due.wrongAt(HEAD + EDGE.repeat(14) + "!edge 5 5 ? x", WindyTours.TOO_MANY);
+        Due.wrongAt(HEAD + "depot 0;depot 0;depot 1; !depot 1;", WindyTours.TOO_MANY);
+        Due.wrongAt(HEAD + "depot 0;depot 0;depot 1;!depot 2;", WindyTours.TOO_MANY);
+        Due.wrongAt(HEAD + "depot 0;depot 0;depot 1;!depots 2;", WindyTours.SYNTAX_ERROR);
     }
 
     private static void tooDeep() {
-        wrongAt(HEAD + "service ((((!(1)))));", WindyTours.TOO_DEEP);
-        wrongAt(HEAD + "service (((1+(2*!(3)))));", WindyTours.TOO_DEEP);
-        wrongAt(HEAD + "service ((((1))))+((((!((((2))))", WindyTours.TOO_DEEP);
-        wrongAt(HEAD + "service ((((1!((2))))));", WindyTours.SYNTAX_ERROR);
-        wrongAt(HEAD + "service ((((!", WindyTours.SYNTAX_ERROR);
+        Due.wrongAt(HEAD + "service ((((!(1)))));", WindyTours.TOO_DEEP);
+        Due.wrongAt(HEAD + "service (((1+(2*!(3)))));", WindyTours.TOO_DEEP);
+        Due.wrongAt(HEAD + "service ((((1))))+((((!((((2))))", WindyTours.TOO_DEEP);
+        Due.wrongAt(HEAD + "service ((((1!((2))))));", WindyTours.SYNTAX_ERROR);
+        Due.wrongAt(HEAD + "service ((((!", WindyTours.SYNTAX_ERROR);
     }
 
     private static void theFirstErrorCounts() {
-        wrongAt("network !9 0;?", WindyTours.OUT_OF_RANGE);
-        wrongAt(HEAD + "edge !2 2 0 0;", WindyTours.OUT_OF_RANGE);
-        wrongAt(HEAD + "edge 0 !0 x", WindyTours.OUT_OF_RANGE);
-        wrongAt(HEAD + "edge 0 1 !x 0", WindyTours.SYNTAX_ERROR);
-        wrongAt(HEAD + "service !10000 (((((((1", WindyTours.OUT_OF_RANGE);
-        wrongAt(HEAD + "service ((((!(10000 ?", WindyTours.TOO_DEEP);
-        wrongAt(HEAD + "depot 0;depot 0;depot !2;depot 0;", WindyTours.OUT_OF_RANGE);
-        wrongAt(HEAD + "ban !5 5 5 5", WindyTours.OUT_OF_RANGE);
-        wrongAt(HEAD + "!10000 edge", WindyTours.SYNTAX_ERROR);
-        wrongAt("!?network 9 9", WindyTours.SYNTAX_ERROR);
+        Due.wrongAt("network !9 0;?", WindyTours.OUT_OF_RANGE);
+        Due.wrongAt(HEAD + "edge !2 2 0 0;", WindyTours.OUT_OF_RANGE);
+        Due.wrongAt(HEAD + "edge 0 !0 x", WindyTours.OUT_OF_RANGE);
+        Due.wrongAt(HEAD + "edge 0 1 !x 0", WindyTours.SYNTAX_ERROR);
+        Due.wrongAt(HEAD + "service !10000 (((((((1", WindyTours.OUT_OF_RANGE);
+        Due.wrongAt(HEAD + "service ((((!(10000 ?", WindyTours.TOO_DEEP);
+        Due.wrongAt(HEAD + "depot 0;depot 0;depot !2;depot 0;", WindyTours.OUT_OF_RANGE);
+        Due.wrongAt(HEAD + "ban !5 5 5 5", WindyTours.OUT_OF_RANGE);
+        Due.wrongAt(HEAD + "!10000 edge", WindyTours.SYNTAX_ERROR);
+        Due.wrongAt("!?network 9 9", WindyTours.SYNTAX_ERROR);
     }
 
     /** The sign | is where the text ends; what stands behind it in the buffer is not read. */

@@ -1,14 +1,19 @@
 import java.util.function.LongSupplier;
 
-/** All promises: the program and the naive program get the same calls, and each answer must be the same. */
+/**
+ * All promises: the program and the naive program get the same calls, and each answer must be the same.
+ * An object gets no more calls than the document promises answers for, so that each play asks some questions only.
+ */
 public final class ModelTest {
-    private static final int PLAYS = 400;
-    private static final int STEPS = 60;
+    private static final int PLAYS = 1500;
+    private static final int READINGS = 700;
+    private static final int MOST_CALLS = 512;
 
     private final SetupMaker maker;
     private final String name;
     private final WindyTours x = new WindyTours();
     private final NaiveTours y = new NaiveTours();
+    private int calls = 0;
 
     private ModelTest(int seed) {
         maker = new SetupMaker(seed);
@@ -19,7 +24,7 @@ public final class ModelTest {
         for (int seed = 1; seed <= PLAYS && Due.isClean(); seed++) {
             new ModelTest(seed).play();
         }
-        for (int seed = 1; seed <= 60 && Due.isClean(); seed++) {
+        for (int seed = 1; seed <= READINGS && Due.isClean(); seed++) {
             new ModelTest(100_000 + seed).readDamagedTexts();
         }
         Due.end();
@@ -33,7 +38,15 @@ public final class ModelTest {
         }
     }
 
+    private boolean hasCalls(int count) {
+        return calls + count <= MOST_CALLS && Due.isClean();
+    }
+
     private void same(String call, LongSupplier got, LongSupplier due) {
+        if (!hasCalls(1)) {
+            return;
+        }
+        calls++;
         String answer = outcome(got);
         String wanted = outcome(due);
         if (!answer.equals(wanted)) {
@@ -42,6 +55,7 @@ public final class ModelTest {
     }
 
     private void appendBoth(String text) {
+        calls += (text.length() + 19) / 20;
         Due.appended(x, text);
         for (int from = 0; from < text.length(); from += 20) {
             int[] words = new int[5];
@@ -59,25 +73,25 @@ public final class ModelTest {
     }
 
     private void readDamagedTexts() {
-        for (int i = 0; i < 150; i++) {
+        while (hasCalls(37)) {
             loadBoth(maker.damaged(maker.setup()));
+            askNetwork(1);
         }
-        compareNetworks();
     }
 
     private void play() {
         loadBoth(maker.setup());
-        compareNetworks();
+        askNetwork(maker.oneIn(3) ? 300 : 20);
         openTours();
-        for (int i = 0; i < STEPS && Due.isClean(); i++) {
+        while (hasCalls(60)) {
             change(maker.below(24));
-            compareTours();
+            askTours(maker.between(1, 5));
         }
-        for (int i = 0; i < 9; i++) {
+        while (hasCalls(1)) {
             same("undo", x::undo, y::undo);
-            compareTours();
+            askTours(2);
+            askNetwork(1);
         }
-        compareNetworks();
     }
 
     private void openTours() {
@@ -128,9 +142,7 @@ public final class ModelTest {
                 break;
             default:
                 same("undo", x::undo, y::undo);
-                if (maker.oneIn(4)) {
-                    compareNetworks();
-                }
+                askNetwork(2);
                 break;
         }
     }
@@ -138,7 +150,7 @@ public final class ModelTest {
     private void loadOther() {
         if (maker.oneIn(3)) {
             loadBoth(maker.oneIn(2) ? maker.damaged(maker.setup()) : maker.setup());
-            compareNetworks();
+            askNetwork(9);
             openTours();
             return;
         }
@@ -148,57 +160,82 @@ public final class ModelTest {
         same("errorOffset", x::errorOffset, y::errorOffset);
     }
 
-    private void compareNetworks() {
-        same("nodeCount", x::nodeCount, y::nodeCount);
-        same("edgeCount", x::edgeCount, y::edgeCount);
-        same("depotCount", x::depotCount, y::depotCount);
-        same("oddNodes", x::oddNodes, y::oddNodes);
-        same("matching", x::matching, y::matching);
-        for (int edge = -1; edge <= y.edgeCount(); edge++) {
-            for (int what = -1; what <= 5; what++) {
-                int e = edge;
-                int w = what;
-                same("edge " + e + " " + w, () -> x.edge(e, w), () -> y.edge(e, w));
-            }
-        }
-        for (int from = -1; from <= y.nodeCount(); from++) {
-            for (int to = -1; to <= y.nodeCount(); to++) {
-                int f = from;
-                int t = to;
-                same("distance " + f + " " + t, () -> x.distance(f, t), () -> y.distance(f, t));
-            }
-        }
-        for (int arc = -1; arc <= 2 * y.edgeCount(); arc++) {
-            int a = arc;
-            same("serviceCost " + a, () -> x.serviceCost(a), () -> y.serviceCost(a));
-            for (int other = -1; other <= 2 * y.edgeCount(); other++) {
-                int b = other;
-                same("mayFollow " + a + " " + b, () -> x.mayFollow(a, b) ? 1 : 0, () -> y.mayFollow(a, b) ? 1 : 0);
-                same("deadhead " + a + " " + b, () -> x.deadhead(a, b), () -> y.deadhead(a, b));
-            }
+    private void askNetwork(int questions) {
+        for (int i = 0; i < questions; i++) {
+            int node = index(y.nodeCount());
+            int other = index(y.nodeCount());
+            int arc = index(2 * y.edgeCount());
+            int next = index(2 * y.edgeCount());
+            askOfNetwork(maker.below(12), node, other, arc, next);
         }
     }
 
-    private void compareTours() {
-        same("checksum", x::checksum, y::checksum);
-        same("tourCount", x::tourCount, y::tourCount);
-        same("totalCost", x::totalCost, y::totalCost);
-        same("unserved", x::unserved, y::unserved);
-        for (int tour = -1; tour <= y.tourCount(); tour++) {
-            int t = tour;
-            same("depotOf " + t, () -> x.depotOf(t), () -> y.depotOf(t));
-            same("length " + t, () -> x.length(t), () -> y.length(t));
-            same("loadOf " + t, () -> x.loadOf(t), () -> y.loadOf(t));
-            same("tourCost " + t, () -> x.tourCost(t), () -> y.tourCost(t));
-            for (int position = -1; position <= 15; position++) {
-                int p = position;
-                same("arcAt " + t + " " + p, () -> x.arcAt(t, p), () -> y.arcAt(t, p));
-            }
+    private void askOfNetwork(int kind, int node, int other, int arc, int next) {
+        switch (kind) {
+            case 0:
+                same("nodeCount", x::nodeCount, y::nodeCount);
+                same("edgeCount", x::edgeCount, y::edgeCount);
+                same("depotCount", x::depotCount, y::depotCount);
+                break;
+            case 1:
+                same("oddNodes", x::oddNodes, y::oddNodes);
+                same("matching", x::matching, y::matching);
+                break;
+            case 2:
+                int what = maker.between(-1, 5);
+                same("edge " + (arc >> 1) + " " + what, () -> x.edge(arc >> 1, what), () -> y.edge(arc >> 1, what));
+                break;
+            case 3: case 4:
+                same("distance " + node + " " + other, () -> x.distance(node, other), () -> y.distance(node, other));
+                break;
+            case 5: case 6:
+                same("serviceCost " + arc, () -> x.serviceCost(arc), () -> y.serviceCost(arc));
+                break;
+            case 7: case 8:
+                same("mayFollow " + arc + " " + next, () -> x.mayFollow(arc, next) ? 1 : 0, () -> y.mayFollow(arc, next) ? 1 : 0);
+                break;
+            default:
+                same("deadhead " + arc + " " + next, () -> x.deadhead(arc, next), () -> y.deadhead(arc, next));
+                break;
         }
-        for (int edge = -1; edge <= y.edgeCount(); edge++) {
-            int e = edge;
-            same("tourOf " + e, () -> x.tourOf(e), () -> y.tourOf(e));
-            same("bestInsertion " + e, () -> x.bestInsertion(e), () -> y.bestInsertion(e));
+    }
+
+    private void askTours(int questions) {
+        same("checksum", x::checksum, y::checksum);
+        for (int i = 0; i < questions; i++) {
+            askOfTours(maker.below(10), index(y.tourCount()), index(y.edgeCount()));
+        }
+    }
+
+    private void askOfTours(int kind, int tour, int edge) {
+        switch (kind) {
+            case 0:
+                same("tourCount", x::tourCount, y::tourCount);
+                same("totalCost", x::totalCost, y::totalCost);
+                break;
+            case 1:
+                same("unserved", x::unserved, y::unserved);
+                break;
+            case 2:
+                same("depotOf " + tour, () -> x.depotOf(tour), () -> y.depotOf(tour));
+                same("length " + tour, () -> x.length(tour), () -> y.length(tour));
+                break;
+            case 3:
+                same("loadOf " + tour, () -> x.loadOf(tour), () -> y.loadOf(tour));
+                break;
+            case 4:
+                same("tourCost " + tour, () -> x.tourCost(tour), () -> y.tourCost(tour));
+                break;
+            case 5:
+                int position = maker.between(-1, 15);
+                same("arcAt " + tour + " " + position, () -> x.arcAt(tour, position), () -> y.arcAt(tour, position));
+                break;
+            case 6:
+                same("tourOf " + edge, () -> x.tourOf(edge), () -> y.tourOf(edge));
+                break;
+            default:
+                same("bestInsertion " + edge, () -> x.bestInsertion(edge), () -> y.bestInsertion(edge));
+                break;
         }
     }
 }
