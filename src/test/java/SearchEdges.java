@@ -161,6 +161,23 @@ final class SearchEdges {
             y.openTour(0);
             Due.is("what is not served is not inserted", y.improve(10), 0);
             Due.is("arcs", y.length(0), 0);
+            WindyTours z = Due.with("network 2 9;edge 1 0 5 5 1;edge 1 0 5 5 1;depot 0;");
+            z.openTour(0);
+            z.openTour(0);
+            z.insert(0, 0, 0);
+            z.insert(1, 0, 3);
+            Due.is("the way home of another tour", z.improve(1), 10);
+            TourEdges.arcs("by its first arc, at position 1", z, 1, "3 0");
+            WindyTours last = Due.with("network 3 14;" + EDGE.repeat(14) + "depot 2;depot 0;");
+            for (int tour = 0; tour < 4; tour++) {
+                last.openTour(tour / 3);
+            }
+            for (int edge = 1; edge < 14; edge++) {
+                last.insert(3, edge - 1, 2 * edge + (edge - 1) % 2);
+            }
+            Due.is("2 more in front than at the end", last.insert(3, 0, 1), 16);
+            Due.is("from the first to the last position of the last tour", last.improve(1), 2);
+            TourEdges.arcs("at position 13", last, 3, "2 5 6 9 10 13 14 17 18 21 22 25 26 1");
         });
         said("(There can be none, if the tour without the edge is not drivable.) The gain is the total cost before minus the total cost"
                 + " after it.", () -> {

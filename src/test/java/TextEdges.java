@@ -353,6 +353,15 @@ final class TextEdges {
             Due.is("without the last byte", x.load(HEAD.length() + EDGE.length()), 1);
             Due.is("fewer of all", Due.loaded(x, "network 3 1;"), 0);
             Due.is("edges and depots", x.edgeCount() + x.depotCount(), 0);
+            Due.is("the most of all", Due.loaded(x, NetworkEdges.full()), 14);
+            Due.is("fewer of all", Due.loaded(x, HEAD.replace("1;", "99;") + EDGE + EDGE + "depot 0;"), 2);
+            Due.is("the edges that are gone have no demand", x.unserved(), 2);
+            Due.is("nor an end", x.oddNodes(), 0);
+            x.openTour(0);
+            Due.is("nor an insertion", x.build(), 2);
+            Due.is("nor a best change", x.improve(10), 0);
+            Due.is("arcs", x.length(0), 2);
+            Due.noIndex("nor an index", () -> x.tourOf(2));
         });
         Sentence.holds(3, "There are no tours then.", () -> {
             WindyTours x = Due.with(HEAD + EDGE + "depot 0;");
