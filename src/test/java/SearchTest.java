@@ -17,6 +17,7 @@ public final class SearchTest {
         buildingNothing();
         improving();
         improvingBetweenTours();
+        improvingFromTheEndOfAnotherTour();
         improvingManyTimes();
         theGreatestGainFirst();
         theSmallestEdgeFirst();
@@ -193,6 +194,21 @@ public final class SearchTest {
         y.insert(0, 0, 4);
         y.insert(1, 0, 0);
         Due.is("30: no room for two", y.improve(10), 0);
+    }
+
+    private static void improvingFromTheEndOfAnotherTour() {
+        WindyTours x = Due.with("network 2 99;edge 0 1 1 1 1;edge 0 1 5 9 1;edge 0 1 1 1 0;depot 0;");
+        x.openTour(0);
+        x.openTour(0);
+        x.insert(1, 0, 0);
+        Due.is("26: there, and dearly back", x.insert(1, 1, 3), 10);
+        Due.is("30: there in the first tour, as dear as in its own", x.improve(1), 2);
+        TourEdges.arcs("30: the first tour", x, 0, "2");
+        TourEdges.arcs("30: what is left of the second tour", x, 1, "0");
+        Due.is("30: back by edge 0 for 1, not for 2", x.improve(1), 2);
+        TourEdges.arcs("30: edge 0 comes behind edge 1", x, 0, "2 1");
+        Due.is("17: nothing is left", x.length(1), 0);
+        Due.is("30: as good as can be", x.improve(10), 0);
     }
 
     /** Three edges at the depot, each of which is served the dear way round in a tour of its own. */

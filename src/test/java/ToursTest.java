@@ -16,6 +16,7 @@ public final class ToursTest {
         costs();
         costsFromOtherDepots();
         whatIsAskedOfTours();
+        toursBesideEachOther();
         wrongIndexes();
         insertionsThatAreNotAllowed();
         insertionsThatAreNotPossible();
@@ -24,6 +25,8 @@ public final class ToursTest {
         droppingOnOneWay();
         flipping();
         flippingThatIsNotAllowed();
+        flippingInAnotherTour();
+        flippingBehindAnArcThatCannotBeTurned();
         Due.end();
     }
 
@@ -106,6 +109,39 @@ public final class ToursTest {
         Due.is("23: the other tour", x.tourOf(1), 0);
         Due.is("22: all are served", x.unserved(), 0);
         Due.is("21: totalCost", x.totalCost(), 20);
+    }
+
+    /** Each demand is another power of 2, so that a load tells which edges it counts. */
+    private static WindyTours twoTours() {
+        WindyTours x = Due.with("network 2 20;edge 0 1 2 3 1;edge 0 1 5 7 2;edge 0 1 11 13 4;edge 0 1 17 19 8;edge 0 1 23 29 16;"
+                + "depot 0;depot 1;");
+        x.openTour(0);
+        x.openTour(1);
+        x.insert(0, 0, 0);
+        x.insert(1, 0, 3);
+        x.insert(1, 1, 4);
+        x.insert(1, 2, 7);
+        return x;
+    }
+
+    private static void toursBesideEachOther() {
+        WindyTours x = twoTours();
+        Due.is("20: there and back", x.tourCost(0), 2 + 3);
+        Due.is("20: two ways there, two back", x.tourCost(1), 7 + 11 + 19 + 2);
+        Due.is("19: the load of the first tour", x.loadOf(0), 1);
+        Due.is("19: the load of the second tour", x.loadOf(1), 2 + 4 + 8);
+        Due.noState("26: the second tour has no room", () -> x.insert(1, 0, 8));
+        Due.is("24: but the first one has", x.bestInsertion(4), 0);
+        Due.is("27: from the middle of the second tour", x.drop(2), 7 + 2 + 19 + 2);
+        TourEdges.arcs("18: the second tour", x, 1, "3 7");
+        TourEdges.arcs("18: the first tour stays", x, 0, "0");
+        Due.is("27: the last one of the second tour", x.drop(3), 7 + 2);
+        TourEdges.arcs("18: the second tour", x, 1, "3");
+        Due.is("19: its load", x.loadOf(1), 2);
+        Due.is("26: it has room now", x.insert(1, 1, 8), 7 + 23);
+        Due.is("19: its load", x.loadOf(1), 18);
+        Due.is("28: the last one of the second tour", x.flip(4), 7 + 2 + 29 + 2);
+        TourEdges.arcs("18: the second tour", x, 1, "3 9");
     }
 
     private static void wrongIndexes() {
@@ -283,5 +319,46 @@ public final class ToursTest {
         WindyTours start = deadStartTour();
         Due.noState("28: the arc behind the first one follows the first one alone", () -> start.flip(2));
         Due.is("28: deadheads 1 and 2", start.flip(1), 6);
+    }
+
+    /** One tour goes round the triangle that can be driven one way alone, the other one there and back in another part. */
+    private static WindyTours roundAndBack(int round, int back) {
+        WindyTours x = Due.with(ONE_WAY.replace("network 3", "network 5").replace("service 10",
+                "edge 3 4 2 3 1;edge 3 4 5 7 1;depot 3"));
+        x.openTour(round == 0 ? 1 : 0);
+        x.openTour(round == 0 ? 0 : 1);
+        for (int position = 0; position < 3; position++) {
+            x.insert(round, position, 2 * position);
+        }
+        x.insert(back, 0, 6);
+        x.insert(back, 1, 9);
+        return x;
+    }
+
+    private static void flippingInAnotherTour() {
+        for (int round = 0; round < 2; round++) {
+            WindyTours x = roundAndBack(round, 1 - round);
+            for (int edge = 0; edge < 3; edge++) {
+                int turned = edge;
+                Due.noState("28: round in tour " + round + ", edge " + edge, () -> x.flip(turned));
+            }
+            TourEdges.arcs("28: nothing is turned", x, round, "0 2 4");
+            Due.is("28: the first one", x.flip(3), 2 + 3 + 2 + 7);
+            TourEdges.arcs("28: it is turned", x, 1 - round, "7 9");
+            Due.is("28: the second one", x.flip(4), 2 + 3 + 5 + 3);
+            TourEdges.arcs("28: both are turned", x, 1 - round, "7 8");
+            Due.is("21: both tours", x.totalCost(), 3 + 13);
+        }
+    }
+
+    /** Nothing may come to arc 1. Behind arc 0, edge 1 can be served by either arc all the same. */
+    private static void flippingBehindAnArcThatCannotBeTurned() {
+        WindyTours x = Due.with("network 3 9;edge 0 1 2 3 1;edge 1 2 5 7 1;edge 2 0 11 13 0;ban 1 0 0;ban 1 1 0;depot 0;");
+        x.openTour(0);
+        x.insert(0, 0, 0);
+        Due.is("26: round", x.insert(0, 1, 2), 2 + 5 + 11);
+        Due.noState("28: no way to arc 1", () -> x.flip(0));
+        Due.is("28: there, back, and there again", x.flip(1), 2 + 5 + 7 + 5 + 11);
+        TourEdges.arcs("28: it is turned", x, 0, "0 3");
     }
 }
